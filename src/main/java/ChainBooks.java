@@ -201,7 +201,7 @@ public final class ChainBooks {
         if (i < 0 || i >= n || n > pages.entries) {
             return NONE;
         }
-        trail.makePath(pages, i, n);
+        trail.make(pages, false, i, n);
         return trail.steps;
     }
 
@@ -209,7 +209,7 @@ public final class ChainBooks {
         if (m <= 0 || m >= n || n > pages.entries) {
             return NONE;
         }
-        trail.makeProof(pages, m, n);
+        trail.make(pages, true, m, n);
         return trail.steps;
     }
 
@@ -757,8 +757,9 @@ public final class ChainBooks {
             for (int t = 16; t < BLOCK; t++) {
                 int x = schedule[t - 15];
                 int y = schedule[t - 2];
-                schedule[t] = schedule[t - 16] + (turned(x, 7) ^ turned(x, 18) ^ x >>> 3)
-                    + schedule[t - 7] + (turned(y, 17) ^ turned(y, 19) ^ y >>> 10);
+                schedule[t] = schedule[t - 16] + schedule[t - 7]
+                    + ((x >>> 7 | x << 25) ^ (x >>> 18 | x << 14) ^ x >>> 3)
+                    + ((y >>> 17 | y << 15) ^ (y >>> 19 | y << 13) ^ y >>> 10);
             }
         }
 
@@ -772,9 +773,10 @@ public final class ChainBooks {
             int g = state[6];
             int h = state[7];
             for (int t = 0; t < BLOCK; t++) {
-                int one = h + (turned(e, 6) ^ turned(e, 11) ^ turned(e, 25)) + (e & f ^ ~e & g)
-                    + ROUND[t] + schedule[t];
-                int two = (turned(a, 2) ^ turned(a, 13) ^ turned(a, 22)) + (a & b ^ a & c ^ b & c);
+                int one = h + ((e >>> 6 | e << 26) ^ (e >>> 11 | e << 21) ^ (e >>> 25 | e << 7))
+                    + (e & f ^ ~e & g) + ROUND[t] + schedule[t];
+                int two = ((a >>> 2 | a << 30) ^ (a >>> 13 | a << 19) ^ (a >>> 22 | a << 10))
+                    + (a & b ^ a & c ^ b & c);
                 h = g;
                 g = f;
                 f = e;
@@ -792,10 +794,6 @@ public final class ChainBooks {
             state[5] += f;
             state[6] += g;
             state[7] += h;
-        }
-
-        private static int turned(int word, int by) {
-            return word >>> by | word << (32 - by);
         }
     }
 
@@ -890,27 +888,29 @@ public final class ChainBooks {
         }
 
         private int[] nodeOf(int level, int position) {
-            for (int below = level; below >= 0; below--) {
-                int from = (LEAVES >> (level - below)) + (position << below);
-                learn(from, from + (1 << below));
+            for (int height = 0; height <= level; height++) {
+                int from = (LEAVES >> height) + (position << (level - height));
+                int till = from + (1 << (level - height));
+                for (int node = from; node < till; node++) {
+                    if (!known[node]) {
+                        learn(node);
+                    }
+                }
             }
             return nodes[(LEAVES >> level) + position];
         }
 
-        private void learn(int from, int till) {
-            for (int node = from; node < till; node++) {
-                if (!known[node]) {
-                    known[node] = true;
-                    if (node >= LEAVES) {
-                        sha.begin();
-                        sha.add(0);
-                        sha.addBytes(now, start[node - LEAVES], start[node - LEAVES + 1]);
-                        sha.end(nodes[node]);
-                    } else {
-                        sha.join(nodes[2 * node], nodes[2 * node + 1], nodes[node]);
-                    }
-                }
+        /** Only where both nodes below are known. */
+        private void learn(int node) {
+            known[node] = true;
+            if (node < LEAVES) {
+                sha.join(nodes[2 * node], nodes[2 * node + 1], nodes[node]);
+                return;
             }
+            sha.begin();
+            sha.add(0);
+            sha.addBytes(now, start[node - LEAVES], start[node - LEAVES + 1]);
+            sha.end(nodes[node]);
         }
     }
 
@@ -943,20 +943,21 @@ public final class ChainBooks {
         final int[] older = new int[HASH_WORDS];
         final int[] newer = new int[HASH_WORDS];
 
-        void makePath(Pages pages, int i, int n) {
-            begin(false, i, n);
-            goDown(i, n);
-            addAsides(pages);
-        }
-
-        void makeProof(Pages pages, int m, int n) {
-            begin(true, m, n);
-            goDown(m - 1, n);
+        void make(Pages pages, boolean asProof, int itsFrom, int itsTill) {
+            isMade = true;
+            isProof = asProof;
+            from = itsFrom;
+            till = itsTill;
+            steps = 0;
+            goDown(asProof ? itsFrom - 1 : itsFrom);
             if (hasOwnBeginning()) {
                 pages.treeOf(endFirst, endSize, hashes[0]);
                 steps = 1;
             }
-            addAsides(pages);
+            for (int t = turns - 1; t >= 0; t--) {
+                pages.treeOf(asideFirst[t], asideSize[t], hashes[steps]);
+                steps++;
+            }
         }
 
         boolean reaches(int[] leaf, Head head) {
@@ -969,22 +970,14 @@ public final class ChainBooks {
             return sameHash(older, old.tree) && sameHash(newer, young.tree);
         }
 
-        private void begin(boolean asProof, int itsFrom, int itsTill) {
-            isMade = true;
-            isProof = asProof;
-            from = itsFrom;
-            till = itsTill;
-            steps = 0;
-        }
-
         /** A PROOF that never went right begins at the TREE of the first m, which its reader has. */
         private boolean hasOwnBeginning() {
             return isProof && endFirst > 0;
         }
 
-        private void goDown(int entry, int n) {
+        private void goDown(int entry) {
             endFirst = 0;
-            endSize = n;
+            endSize = till;
             turns = 0;
             while (turns < TREE_LEVELS && !isEnd(entry)) {
                 int half = powerBelow(endSize);
@@ -1008,13 +1001,6 @@ public final class ChainBooks {
                 power *= 2;
             }
             return power;
-        }
-
-        private void addAsides(Pages pages) {
-            for (int t = turns - 1; t >= 0; t--) {
-                pages.treeOf(asideFirst[t], asideSize[t], hashes[steps]);
-                steps++;
-            }
         }
 
         private void goUp(int[] beginning) {
