@@ -1026,11 +1026,10 @@ public final class ChainBooks {
         /** The first entry that no ledger would make there; NONE if it would make them all. */
         int firstBad(Pages pages, int[] everyTold) {
             mirror.startAnew();
-            for (int i = 0; i <= MOST_ENTRIES && mirror.start[i] < pages.size(); i++) {
+            for (int i = 0; i <= MOST_ENTRIES && hasToStand(pages, i); i++) {
                 if (everyTold[i] != NONE) {
                     mirror.startEvery(everyTold[i]);
                 }
-                // else the entry before has brought a TRIAL, which has to stand here
                 if (mirror.entries == i) {
                     callAgain(pages, mirror.start[i]);
                 }
@@ -1039,6 +1038,11 @@ public final class ChainBooks {
                 }
             }
             return NONE;
+        }
+
+        /** Also without a byte of it: the entry before may have brought a TRIAL, which comes next. */
+        private boolean hasToStand(Pages pages, int i) {
+            return mirror.entries > i || mirror.start[i] < pages.size();
         }
 
         /** Makes no entry where none can be read; one that is read beyond the last byte stands() refuses. */

@@ -41,6 +41,7 @@ public final class Promises {
         auditOfSecondByKey();
         auditOfTrials();
         auditOfShiftedBytes();
+        auditOfMissingTrials();
         auditBeyondTheEnd();
         auditOfTooManyEntries();
         count();
@@ -865,6 +866,53 @@ public final class Promises {
         due("a hold that has more bytes than there are", y.audit(), 0);
         y.alter(0, 3 ^ 7);
         due("a trial that is not due", y.audit(), 0);
+    }
+
+    /** Two HOLDS and a RELEASE have as many bytes as a POST of two legs and its REVERSAL. */
+    private static void auditOfMissingTrials() {
+        due("the second of 2 brings a TRIAL", forgedWithTwoMoved(2, 3).audit(), 5);
+        due("the first one brings a TRIAL, the REVERSAL stands there", forgedWithTwoMoved(1, 3).audit(), 4);
+        due("no TRIAL has to come yet", forgedWithTwoMoved(3, 3).audit(), 3);
+        due("never a TRIAL", forgedWithTwoMoved(0, 3).audit(), 3);
+        ChainBooks x = forgedWithTwoMoved(2, 3);
+        x.open(0);
+        due("an OPEN stands where a TRIAL has to", x.audit(), 5);
+        due("entry 199 of 200 has to be a TRIAL", forgedWithTwoMoved(2, 197).audit(), 199);
+        ChainBooks y = forgedWithTwoMoved(2, 196);
+        overwrite(y, (int) y.entry(195, 2), ByteBuffer.allocate(9)
+            .put((byte) 4).putShort((short) 2).put((byte) 4).putShort((short) 3).put((byte) 4).putShort((short) 4).array());
+        due("three RELEASES stand for an OPEN, so the REVERSAL is of a RELEASE", y.audit(), 199);
+        overwrite(y, (int) y.entry(196, 2) + 37, new byte[] {0, (byte) 198});
+        due("all of 200 can be read, so no TRIAL comes behind them", y.audit(), 195);
+    }
+
+    /** Entries before, of which 0, 1 and the last are OPENS; then the altered ones; EVERY is told before them all. */
+    private static ChainBooks forgedWithTwoMoved(int every, int before) {
+        ChainBooks x = new ChainBooks();
+        x.every(every);
+        x.open(LEAST);
+        x.open(LEAST);
+        for (int i = 2; i < before - 1; i++) {
+            due("hold", x.hold(1000 + i, 0, 1), i);
+        }
+        x.open(LEAST);
+        due("hold", x.hold(1, 0, 1), before);
+        due("hold", x.hold(2, 0, 1), before + 1);
+        due("release", x.release(before), before + 2);
+        due("as it was made", x.audit(), NONE);
+        overwrite(x, (int) x.entry(before, 2), ByteBuffer.allocate(39)
+            .put((byte) 2).putLong(1).put((byte) 2).put((byte) 0).putLong(-5).put((byte) 1).putLong(5)
+            .put((byte) 6).putLong(2).putShort((short) before).array());
+        return x;
+    }
+
+    private static void overwrite(ChainBooks x, int at, byte[] goal) {
+        for (int b = 0; b < goal.length; b++) {
+            int mask = x.data(at + b) ^ goal[b] & 255;
+            if (mask != 0) {
+                x.alter(at + b, mask);
+            }
+        }
     }
 
     /** Behind the RELEASE there are no bytes, so it can't be an OPEN, whatever stood there. */

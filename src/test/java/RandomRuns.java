@@ -833,7 +833,7 @@ public final class RandomRuns {
         int audit() {
             Model again = new Model();
             ByteBuffer in = ByteBuffer.wrap(now);
-            for (int i = 0; in.hasRemaining(); i++) {
+            for (int i = 0; in.hasRemaining() || again.entries.size() > i; i++) {
                 for (int[] call : everyCalls) {
                     if (call[0] == i) {
                         again.every(call[1]);
