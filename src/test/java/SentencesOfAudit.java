@@ -63,6 +63,12 @@ public final class SentencesOfAudit {
         isAltered(legs);
         legs.overwrite(2, EntryBytes.open(0), EntryBytes.open(0));
         legs.audit().gives(5);
+        Books leg = Books.opened(-100, 0);
+        leg.postOf(1, 0, -10, 1, 5, 1, 5).gives(2);
+        leg.reverse(2, 2).gives(3);
+        leg.audit().gives(-1);
+        // the REVERSAL is of two legs then, since the third is read as an OPEN
+        isGood(leg, 2, EntryBytes.post(1, 0, -5, 1, 5), EntryBytes.open(0));
     }
 
     @Says(in = "Promise 22", words = CALLED)

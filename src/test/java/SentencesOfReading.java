@@ -462,6 +462,26 @@ public final class SentencesOfReading {
         x.data(91).gives(-1);
     }
 
+    /** 38 POSTS of 8 legs, and HOLDS: nearly as many bytes as 512 calls can make. */
+    @Says(in = "Promise 23", words = "2 bytes of all,")
+    static void countOfBytesOf200LongEntries() {
+        Books x = Books.opened(-1000);
+        for (int i = 1; i < 39; i++) {
+            for (int k = 0; k < 8; k++) {
+                x.leg(0, k < 7 ? 1 : -7);
+            }
+            x.post(i).gives(i);
+        }
+        x.filled(39);
+        int all = 9 + 38 * 82 + 161 * 18;
+        x.count(2).gives(all);
+        x.data(all - 1).gives(1);
+        x.data(all).gives(-1);
+        x.audit().gives(-1);
+        x.alter(all - 1, 3).gives(2);
+        x.audit().gives(199);
+    }
+
     @Says(in = "Promise 23", words = "3 HOLDS that are there,")
     static void countOfHolds() {
         Books x = Books.opened(-10, -10);
