@@ -275,6 +275,72 @@ public final class SentencesOfAudit {
         full.audit().gives(-1);
     }
 
+    /** Read anew, 2 is a POST behind which a TRIAL comes by itself as entry 3, where EVERY was told. */
+    @Says(in = "Promise 22", words = {WHERE, EVERY})
+    static void trialHasToBeThoughEveryWasToldThere() {
+        for (int told : new int[] {0, 1, 2, 50}) {
+            Books x = Books.opened(-100, 0);
+            x.every(1);
+            x.hold(1, 0, 1).gives(2);
+            x.every(told).gives(1);
+            x.hold(2, 0, 1).gives(3);
+            x.release(2).gives(4);
+            isAltered(x);
+            x.overwrite(2, EntryBytes.post(1, 0, -5, 1, 5), EntryBytes.reversal(2, 2));
+            x.audit().gives(3);
+        }
+    }
+
+    @Says(in = "Promise 22", words = {WHERE, EVERY})
+    static void trialWithoutBytesHasToBeThoughEveryWasToldThere() {
+        for (int told : new int[] {0, 1, 2, 50}) {
+            Books x = Books.opened(-100, 0);
+            x.every(2);
+            x.hold(1, 0, 1).gives(2);
+            x.hold(2, 0, 1).gives(3);
+            x.every(told).gives(2);
+            x.release(2).gives(4);
+            isAltered(x);
+            x.overwrite(2, EntryBytes.post(1, 0, -5, 1, 5), EntryBytes.reversal(2, 2));
+            x.audit().gives(4);
+        }
+    }
+
+    /** A HOLD and a POST of two legs have as many bytes as such a POST and a TRIAL. */
+    @Says(in = "Promise 22", words = {WHERE, EVERY})
+    static void everyToldWhereATrialComesIsThatBehindIt() {
+        Books x = Books.opened(-100, 0);
+        x.every(1);
+        x.hold(1, 0, 1).gives(2);
+        x.every(2);
+        x.move(2, 0, 1, 5).gives(3);
+        x.move(3, 0, 1, 5).gives(4);
+        x.entry(5, 0).gives(7);
+        x.move(4, 0, 1, 5).gives(6);
+        x.hold(5, 0, 1).gives(7);
+        isAltered(x);
+        x.overwrite(2, EntryBytes.post(2, 0, -5, 1, 5), EntryBytes.trial(2, 5));
+        // one POST of two is behind the TRIAL that is entry 3 now, so the one that was made as entry 5 has not to be
+        x.audit().gives(5);
+        x.overwrite(5, EntryBytes.hold(1, 0, 1));
+        x.audit().gives(7);
+        x.overwrite(7, EntryBytes.trial(2, 15));
+        x.audit().gives(0);
+    }
+
+    @Says(in = "Promise 22", words = {WHERE, EVERY})
+    static void neverToldWhereATrialComesIsNeverBehindIt() {
+        Books x = Books.opened(-100, 0);
+        x.every(1);
+        x.hold(1, 0, 1).gives(2);
+        x.every(0);
+        x.move(2, 0, 1, 5).gives(3);
+        x.move(3, 0, 1, 5).gives(4);
+        isAltered(x);
+        x.overwrite(2, EntryBytes.post(2, 0, -5, 1, 5), EntryBytes.trial(2, 5));
+        x.audit().gives(0);
+    }
+
     @Says(in = "Promise 22", words = GOOD)
     static void noEntriesAreGood() {
         new Books().audit().gives(-1);
